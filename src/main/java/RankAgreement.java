@@ -597,7 +597,8 @@ public final class RankAgreement {
         int total = product(ANSWER, 0, axes);
         int available = product(ARG_Y, 0, ranks[ARG_Y]);
         for (int i = 0; i < total; i++) {
-            atoms[ANSWER_ATOMS + i] = available > 0 ? atoms[ARG_Y_ATOMS + i % available] : fillValue;
+            int value = available > 0 ? atoms[ARG_Y_ATOMS + i % available] : fillValue;
+            atoms[ANSWER_ATOMS + i] = value;
         }
         return NO_ERROR;
     }

@@ -72,11 +72,14 @@ public final class Promise02MakeTest {
         refused(ARG, 0, -1, 2, 2);
         refused(ARG, 0, 2, -1, 2);
         refused(ARG, 0, 2, -1, 0);
+        refused(ARG, 0, -1, 0, -1);
+        refused(ARG, 0, -1, -1, 0);
         refused(LIMIT, 0, 17, -1, -1);
         refused(LIMIT, 0, 1, 17, -1);
         refused(LIMIT, 0, 1, 1, 17);
         refused(LIMIT, 0, 0, 17, -1);
         refused(LIMIT, 0, 17, 0, 0);
+        refused(LIMIT, 0, 0, 0, 17);
         refused(LIMIT, 0, 0, 0, Integer.MAX_VALUE);
         refused(LIMIT, 0, 65536, 65536, -1);
         refused(LIMIT, 0, 3, 6, -1);
@@ -106,5 +109,24 @@ public final class Promise02MakeTest {
         engine.make(2, 99, -1, -1);
         CHECK.due("refused make: fill()", engine.fill(), 5);
         CHECK.override("refused make", engine, true, -2, 7);
+        fullNeighbours();
+    }
+
+    /** Arrays of the greatest size side by side do not run into each other. */
+    private static void fullNeighbours() {
+        RankAgreement engine = new RankAgreement(32);
+        for (int reg = 3; reg >= 0; reg--) {
+            engine.make(reg, 32, -1, -1);
+            engine.set(reg, 0, 1000 + reg);
+            engine.set(reg, 31, 2000 + reg);
+        }
+        for (int made = 0; made < 4; made++) {
+            engine.make(made, 4, 8, -1);
+            for (int reg = 0; reg < 4; reg++) {
+                boolean old = reg > made;
+                CHECK.due("full register " + reg + " atom 0", engine.atom(reg, 0), old ? 1000 + reg : 0);
+                CHECK.due("full register " + reg + " atom 31", engine.atom(reg, 31), old ? 2000 + reg : 31);
+            }
+        }
     }
 }

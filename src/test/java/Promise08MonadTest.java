@@ -169,6 +169,12 @@ public final class Promise08MonadTest {
         gives("cells with more atoms than the cap", SHAPE, s(0));
         engine.setRank(0, 1);
         gives("cells with as many atoms as the cap", RAVEL, s(0, 16, 16));
+        given(s(0, 3, 6));
+        engine.setRank(0, 2);
+        gives("cells with a few atoms more than the cap", SHAPE, s(0));
+        given(s(0, 4, 4));
+        engine.setRank(0, 2);
+        gives("table cells with as many atoms as the cap", SHAPE, s(0, 2));
         given(s(2, 0, 3));
         engine.setRank(0, 1);
         gives("an empty axis inside the frame", SUM, s(2, 0));
