@@ -35,6 +35,10 @@ final class Check {
         due(after + ": rankSetting(2)", engine.rankSetting(2), right);
     }
 
+    int asked() {
+        return asked;
+    }
+
     static int[] shape(int... axes) {
         return axes;
     }
