@@ -30,6 +30,7 @@ public final class EdgesOfApplicationTest {
         emptyFramesAndShapes();
         emptyFramesAndLimits();
         emptyFramesReportNoError();
+        emptyFramesInsideB();
         positionsInOrder();
         firstErrorEndsIt();
         largestRank();
@@ -411,6 +412,54 @@ public final class EdgesOfApplicationTest {
         BENCH.monadRefused("error " + error + " of one", verb, error);
     }
 
+    /** Cells whose own frames have no positions: B's A goes through step 3 as the outer one does. */
+    private static void emptyFramesInsideB() {
+        BENCH.sentence("inside: If either would have more than cap atoms, or B on them gives any error, let S ="
+                + " []; else S = the shape of B's result.");
+        BENCH.begin(8);
+        ranks(0, 1);
+        for (int rows : new int[] {1, 3, 8}) {
+            BENCH.y(s(rows, 0));
+            iotaOfNothing(0, s(rows, 0, 0));
+            iotaOfNothing(8, s(rows, 0, 8));
+            iotaOfNothing(9, s(rows, 0));
+            iotaOfNothing(-1, s(rows, 0));
+        }
+        BENCH.y(s(2, 3));
+        ranks(1, 3);
+        BENCH.x(s(0));
+        withoutX(TAKE, 2, s(0, 2, 3));
+        withoutX(TAKE, 3, s(0));
+        withoutX(TAKE, -3, s(0));
+        withoutX(TAKE, 9, s(0));
+        withoutX(TAKE, Bench.LOW, s(0));
+        withoutX(FROM, 1, s(0, 3));
+        withoutX(FROM, -2, s(0, 3));
+        withoutX(FROM, 2, s(0));
+        withoutX(FROM, -3, s(0));
+        BENCH.x(s(2, 0));
+        withoutX(FROM, 1, s(2, 0, 3));
+        withoutX(FROM, 2, s(2, 0));
+        withoutX(TAKE, 9, s(2, 0));
+        BENCH.engine.setFill(2);
+        BENCH.dyadRefused("2 0 and 2 3 are four axes", TAKE, LIMIT);
+        ranks(2, 3);
+        BENCH.x(s(0, 2));
+        withoutX(RESHAPE, 2, s(0, 2, 2));
+        withoutX(RESHAPE, 3, s(0));
+        withoutX(RESHAPE, 9, s(0));
+        withoutX(RESHAPE, -1, s(0));
+        BENCH.x(s(2, 0, 1));
+        withoutX(RESHAPE, 8, s(2, 0, 8));
+        withoutX(RESHAPE, 9, s(2, 0));
+        ranks(1, 1);
+        BENCH.x(s(2, 0));
+        BENCH.y(s(2, 0));
+        withoutX(PLUS, 5, s(2, 0));
+        BENCH.y(s(2, 3));
+        BENCH.dyadRefused("cells that do not agree, one of them empty", PLUS, LENGTH);
+    }
+
     private static void positionsInOrder() {
         BENCH.sentence("Else, for each position q = 0, 1, .. in order, the result cell Z(q) = B(V, x cell, y cell).");
         BENCH.begin(32);
@@ -480,6 +529,10 @@ public final class EdgesOfApplicationTest {
         BENCH.dyadGives("K is 2", RESHAPE, s(2, 1, 2), 7, -6, 7, 8);
         BENCH.x(s(3), 2, 2, 2);
         BENCH.dyadGives("K is 3", RESHAPE, s(2, 2, 2), 7, 8, 7, 8, 7, 8, 7, 8);
+        BENCH.x(s(3), 4, 1, 2);
+        BENCH.dyadGives("K is 3, the first axis the longest", RESHAPE, s(4, 1, 2), 7, 8, 7, 8, 7, 8, 7, 8);
+        BENCH.x(s(3), 1, 4, 1);
+        BENCH.dyadGives("K is 3, the middle axis the longest", RESHAPE, s(1, 4, 1), 7, 8, 7, 8);
         BENCH.x(s(1, 3), 1, 1, 1);
         BENCH.dyadRefused("K is 3 behind one axis", RESHAPE, LIMIT);
     }

@@ -111,7 +111,8 @@ public final class EdgesOfArraysTest {
     }
 
     private static void limitsOfProducedArrays() {
-        BENCH.sentence("Every .. produced array obeys the LIMITS: rank <= 3, every axis length <= cap, count <= cap.");
+        BENCH.sentence("Every .. produced array obeys the LIMITS: rank <= 3, every axis length <= cap, count <="
+                + " cap.");
         for (int cap : new int[] {8, 9, 20, 31, 32}) {
             BENCH.begin(cap);
             int half = cap / 2;
@@ -208,7 +209,8 @@ public final class EdgesOfArraysTest {
     }
 
     private static void fillArrays() {
-        BENCH.sentence("A FILL ARRAY of shape S is the array of shape S whose atoms all equal the current fill value.");
+        BENCH.sentence("A FILL ARRAY of shape S is the array of shape S whose atoms all equal the current fill"
+                + " value.");
         for (int fill : new int[] {0, 1, -1, Bench.LOW, Bench.HIGH}) {
             BENCH.begin(8);
             BENCH.y(s(1), 7);

@@ -24,6 +24,7 @@ public final class EdgesOfPromises1To7Test {
         makeNoRegister();
         makeAbsent();
         makeSuffix();
+        makeRank();
         makeAxisAboveCap();
         makeProductAboveCap();
         makeTestsInOrder();
@@ -89,8 +90,9 @@ public final class EdgesOfPromises1To7Test {
     }
 
     private static void startingState() {
-        BENCH.sentence("Afterwards each of the REGS = 4 registers 0..3 holds the rank 0 array holding 0 (rank 0, count"
-                + " 1, atom 0 equal to 0); the fill value is 0; the rank override is inactive with L = 0 and R = 0.");
+        BENCH.sentence("Afterwards each of the REGS = 4 registers 0..3 holds the rank 0 array holding 0 (rank 0,"
+                + " count 1, atom 0 equal to 0); the fill value is 0; the rank override is inactive with L = 0"
+                + " and R = 0.");
         for (int cap : new int[] {LOW, 0, 7, 8, 20, 32, 33, HIGH}) {
             BENCH.engine = new RankAgreement(cap);
             for (int reg = 0; reg < 4; reg++) {
@@ -140,6 +142,18 @@ public final class EdgesOfPromises1To7Test {
                 BENCH.makeRefused(ARG, 0, present, absent, present);
             }
         }
+    }
+
+    private static void makeRank() {
+        BENCH.sentence("Rank = number of present ones.");
+        BENCH.begin(8);
+        BENCH.makeGives(2, -1, -1, -1);
+        BENCH.makeGives(2, 1, -1, -1, 1);
+        BENCH.makeGives(2, 1, 1, -1, 1, 1);
+        BENCH.makeGives(2, 1, 1, 1, 1, 1, 1);
+        BENCH.makeGives(2, 0, -1, -1, 0);
+        BENCH.makeGives(2, 0, 0, -1, 0, 0);
+        BENCH.makeGives(2, 0, 0, 0, 0, 0, 0);
     }
 
     private static void makeAxisAboveCap() {
@@ -207,9 +221,9 @@ public final class EdgesOfPromises1To7Test {
     }
 
     private static void makeStores() {
-        BENCH.sentence("Otherwise reg gets the array of that shape (the present ones in order; rank 0 with shape [] when"
-                + " all are absent) with atom i = i for every i, and the answer is its count (1 for rank 0; 0 when some"
-                + " present one is 0).");
+        BENCH.sentence("Otherwise reg gets the array of that shape (the present ones in order; rank 0 with shape"
+                + " [] when all are absent) with atom i = i for every i, and the answer is its count (1 for rank"
+                + " 0; 0 when some present one is 0).");
         BENCH.begin(32);
         for (int reg = 0; reg < 4; reg++) {
             BENCH.makeGives(reg, 32, -1, -1, 32);
@@ -389,7 +403,8 @@ public final class EdgesOfPromises1To7Test {
     }
 
     private static void fillIsUsedLater() {
-        BENCH.sentence("The new fill value is used by every later application wherever the fill value is called for.");
+        BENCH.sentence("The new fill value is used by every later application wherever the fill value is called"
+                + " for.");
         BENCH.begin(8);
         for (int fill : new int[] {0, 5, -1, LOW, HIGH}) {
             BENCH.engine.setFill(fill);
@@ -411,8 +426,8 @@ public final class EdgesOfPromises1To7Test {
     // ---- Promise 6 ----
 
     private static void rankAnyInts() {
-        BENCH.sentence("the rank override becomes active with L = left and R = right (any ints, including negative ones"
-                + " and ones above 3)");
+        BENCH.sentence("the rank override becomes active with L = left and R = right (any ints, including"
+                + " negative ones and ones above 3)");
         BENCH.begin(8);
         for (int left : ANY_INTS) {
             for (int right : ANY_INTS) {
@@ -423,7 +438,8 @@ public final class EdgesOfPromises1To7Test {
     }
 
     private static void rankWhileActive() {
-        BENCH.sentence("While active, dyad uses l = L and r = R, and monad uses r = R, instead of the declared ranks.");
+        BENCH.sentence("While active, dyad uses l = L and r = R, and monad uses r = R, instead of the declared"
+                + " ranks.");
         BENCH.begin(8);
         BENCH.x(s(2), 10, 20);
         BENCH.y(s(2, 2));

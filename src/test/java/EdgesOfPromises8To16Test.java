@@ -98,8 +98,8 @@ public final class EdgesOfPromises8To16Test {
     }
 
     private static void monadRank() {
-        BENCH.sentence("Then the answer is that of A(verb, array of y, r), with r = R if the override is active, else the"
-                + " declared rank of verb.");
+        BENCH.sentence("Then the answer is that of A(verb, array of y, r), with r = R if the override is active,"
+                + " else the declared rank of verb.");
         BENCH.begin(8);
         BENCH.y(s(2, 2));
         BENCH.engine.clearRank();
@@ -115,8 +115,8 @@ public final class EdgesOfPromises8To16Test {
     }
 
     private static void monadErrors() {
-        BENCH.sentence("monad: On an error the answer is its code and nothing changes: no register, not the fill value,"
-                + " not the rank override.");
+        BENCH.sentence("monad: On an error the answer is its code and nothing changes: no register, not the fill"
+                + " value, not the rank override.");
         for (int left : new int[] {0, LOW}) {
             BENCH.begin(8);
             BENCH.engine.setRank(left, 0);
@@ -137,7 +137,8 @@ public final class EdgesOfPromises8To16Test {
     }
 
     private static void monadDestinations() {
-        BENCH.sentence("monad: Else dst (which may equal y) gets the result and the answer is its count (which may be 0).");
+        BENCH.sentence("monad: Else dst (which may equal y) gets the result and the answer is its count (which"
+                + " may be 0).");
         for (int reg = 0; reg < 4; reg++) {
             BENCH.begin(8);
             Check.put(BENCH.engine, reg, s(2, 2), 1, 2, 2, 0);
@@ -164,7 +165,8 @@ public final class EdgesOfPromises8To16Test {
     }
 
     private static void monadLeavesTheRest() {
-        BENCH.sentence("monad: Only dst changes; the fill value and the rank override never change through this call.");
+        BENCH.sentence("monad: Only dst changes; the fill value and the rank override never change through this"
+                + " call.");
         for (int[] shape : SHAPES) {
             for (int dst = 0; dst < 4; dst++) {
                 for (int verb = 0; verb <= 5; verb++) {
@@ -230,8 +232,8 @@ public final class EdgesOfPromises8To16Test {
     }
 
     private static void dyadRanks() {
-        BENCH.sentence("Then A(verb, array of x, array of y, l, r) with l, r = L, R if the override is active, else the"
-                + " declared ranks of verb (x may equal y).");
+        BENCH.sentence("Then A(verb, array of x, array of y, l, r) with l, r = L, R if the override is active,"
+                + " else the declared ranks of verb (x may equal y).");
         BENCH.begin(16);
         BENCH.x(s(2), 1, 2);
         BENCH.y(s(2), 5, 6);
@@ -256,8 +258,8 @@ public final class EdgesOfPromises8To16Test {
     }
 
     private static void dyadErrors() {
-        BENCH.sentence("dyad: On an error the answer is its code and nothing changes: no register, not the fill value,"
-                + " not the rank override.");
+        BENCH.sentence("dyad: On an error the answer is its code and nothing changes: no register, not the fill"
+                + " value, not the rank override.");
         BENCH.begin(8);
         BENCH.engine.setRank(0, 3);
         BENCH.x(s(3), 1, 0, 9);
@@ -281,8 +283,8 @@ public final class EdgesOfPromises8To16Test {
     }
 
     private static void dyadDestinations() {
-        BENCH.sentence("dyad: Else dst (which may equal x or y) gets the result and the answer is its count (which may"
-                + " be 0).");
+        BENCH.sentence("dyad: Else dst (which may equal x or y) gets the result and the answer is its count"
+                + " (which may be 0).");
         for (int dst = 0; dst < 4; dst++) {
             BENCH.begin(8);
             into(dst, s(2), s(2, 2), PLUS, s(2, 2), 0, 1, 3, 4);
@@ -313,7 +315,8 @@ public final class EdgesOfPromises8To16Test {
     }
 
     private static void dyadLeavesTheRest() {
-        BENCH.sentence("dyad: Only dst changes; the fill value and the rank override never change through this call.");
+        BENCH.sentence("dyad: Only dst changes; the fill value and the rank override never change through this"
+                + " call.");
         for (int[] xShape : SHAPES) {
             for (int[] yShape : SHAPES) {
                 for (int verb = 6; verb <= 12; verb++) {
@@ -394,8 +397,8 @@ public final class EdgesOfPromises8To16Test {
     }
 
     private static void atom() {
-        BENCH.sentence("atom number index of reg's array in row-major order; 0 if reg is outside 0..3 or index is outside"
-                + " 0..count-1");
+        BENCH.sentence("atom number index of reg's array in row-major order; 0 if reg is outside 0..3 or index is"
+                + " outside 0..count-1");
         BENCH.begin(8);
         for (int reg = 0; reg < 4; reg++) {
             for (int[] shape : SHAPES) {
@@ -437,8 +440,8 @@ public final class EdgesOfPromises8To16Test {
     }
 
     private static void rankSetting() {
-        BENCH.sentence("side 0 gives 1 if the override is active, else 0; side 1 gives L; side 2 gives R; every other side"
-                + " gives 0");
+        BENCH.sentence("side 0 gives 1 if the override is active, else 0; side 1 gives L; side 2 gives R; every"
+                + " other side gives 0");
         BENCH.begin(8);
         BENCH.override("at the start", false, 0, 0);
         for (int[] pair : new int[][] {{0, 0}, {1, 2}, {-7, 9}, {LOW, HIGH}, {HIGH, LOW}}) {
@@ -455,8 +458,8 @@ public final class EdgesOfPromises8To16Test {
     }
 
     private static void declaredRanks() {
-        BENCH.sentence("the declared rank of verb, for monads NEG..RAVEL with side 0, and for dyads PLUS..FROM with side 1"
-                + " (left) or side 2 (right), as listed above");
+        BENCH.sentence("the declared rank of verb, for monads NEG..RAVEL with side 0, and for dyads PLUS..FROM"
+                + " with side 1 (left) or side 2 (right), as listed above");
         BENCH.begin(8);
         int[] monads = {0, 0, 3, 3, 3, 3};
         int[] lefts = {0, 0, 0, 0, 1, 0, 0};
@@ -475,8 +478,8 @@ public final class EdgesOfPromises8To16Test {
     }
 
     private static void declaredRanksOfOthers() {
-        BENCH.sentence("For any other verb, or any other side (including side 1 or 2 with a monad and side 0 with a dyad),"
-                + " the answer is -1.");
+        BENCH.sentence("For any other verb, or any other side (including side 1 or 2 with a monad and side 0 with"
+                + " a dyad), the answer is -1.");
         BENCH.begin(8);
         for (int verb : new int[] {-1, -2, LOW, 13, 14, HIGH}) {
             for (int side : new int[] {-1, 0, 1, 2, 3, LOW, HIGH}) {
@@ -496,24 +499,33 @@ public final class EdgesOfPromises8To16Test {
     }
 
     private static void questionsChangeNothing() {
-        BENCH.sentence("Nothing changes.");
-        BENCH.begin(8);
-        BENCH.x(s(2, 2, 2));
-        BENCH.y(s(0, 8, 8));
-        BENCH.engine.setRank(-2, 5);
-        int[] before = BENCH.state();
+        String[] questions = {"rank", "dim", "count", "atom", "fill", "rankSetting", "declaredRank"};
         int[] numbers = {LOW, -33, -1, 0, 1, 2, 3, 4, 5, 6, 7, 12, 13, 32, HIGH};
-        for (int one : numbers) {
-            BENCH.engine.rank(one);
-            BENCH.engine.count(one);
-            BENCH.engine.rankSetting(one);
-            BENCH.engine.fill();
-            for (int other : numbers) {
-                BENCH.engine.dim(one, other);
-                BENCH.engine.atom(one, other);
-                BENCH.engine.declaredRank(one, other);
+        for (int question = 0; question < questions.length; question++) {
+            BENCH.sentence(questions[question] + ": Nothing changes.");
+            BENCH.begin(8);
+            BENCH.x(s(2, 2, 2));
+            BENCH.y(s(0, 8, 8));
+            BENCH.engine.setRank(-2, 5);
+            int[] before = BENCH.state();
+            for (int one : numbers) {
+                for (int other : numbers) {
+                    ask(question, one, other);
+                }
+                BENCH.unchanged(questions[question], before);
             }
-            BENCH.unchanged("questions of " + one, before);
+        }
+    }
+
+    private static void ask(int question, int one, int other) {
+        switch (question) {
+            case 0 -> BENCH.engine.rank(one);
+            case 1 -> BENCH.engine.dim(one, other);
+            case 2 -> BENCH.engine.count(one);
+            case 3 -> BENCH.engine.atom(one, other);
+            case 4 -> BENCH.engine.fill();
+            case 5 -> BENCH.engine.rankSetting(one);
+            default -> BENCH.engine.declaredRank(one, other);
         }
     }
 }

@@ -41,8 +41,10 @@ public final class EdgesOfVerbsTest {
         takeShape();
         takeFromTheFront();
         takeFromTheBack();
+        fromItems();
         fromOutside();
         fromInside();
+        declaredRanks();
         limitRule();
         limitRuleJudgedMathematically();
         BENCH.finish();
@@ -181,6 +183,8 @@ public final class EdgesOfVerbsTest {
         BENCH.monadGives("odd number of items", REVERSE, s(3, 2), 4, 5, 2, 3, 0, 1);
         BENCH.y(s(1, 2, 4));
         BENCH.monadGives("one item", REVERSE, s(1, 2, 4), 0, 1, 2, 3, 4, 5, 6, 7);
+        BENCH.y(s(4, 1, 2));
+        BENCH.monadGives("items of rank 2", REVERSE, s(4, 1, 2), 6, 7, 4, 5, 2, 3, 0, 1);
     }
 
     private static void sum() {
@@ -291,6 +295,10 @@ public final class EdgesOfVerbsTest {
         reshapeRefused(DOMAIN, 8, 8, -1);
         reshapeRefused(DOMAIN, 1, 1, 1, -1);
         reshapeRefused(DOMAIN, 1, 1, 1, 1, 1, 1, 1, -1);
+        // The axes of a refused call do not count in the next one.
+        reshapeRefused(DOMAIN, 2, 2, -1);
+        reshapes(s(2, 2), s(2, 2), 5, 6, 5, 6);
+        reshapes(s(), s(), 5);
     }
 
     private static void reshapeLimits() {
@@ -453,6 +461,24 @@ public final class EdgesOfVerbsTest {
         }
     }
 
+    private static void fromItems() {
+        BENCH.sentence("FROM (dyad, ranks 0 INF): y (rank 0 treated as a list) has len items.");
+        BENCH.begin(8);
+        BENCH.y(s(), 4);
+        fromGives(0, s(), 4);
+        fromGives(-1, s(), 4);
+        fromRefused(1, -2);
+        BENCH.y(s(1), 4);
+        fromGives(0, s(), 4);
+        fromRefused(1, -2);
+        // The items count, not the atoms.
+        BENCH.y(s(2, 3));
+        fromRefused(2, -3);
+        BENCH.y(s(3, 2));
+        fromGives(2, s(2), 4, 5);
+        fromRefused(3, -4);
+    }
+
     private static void fromOutside() {
         BENCH.sentence("If x < -len or x >= len: INDEX error.");
         BENCH.begin(8);
@@ -473,9 +499,6 @@ public final class EdgesOfVerbsTest {
             BENCH.y(empty);
             fromRefused(0, -1, 1, HIGH, LOW);
         }
-        // The items count, not the atoms.
-        BENCH.y(s(2, 3));
-        fromRefused(2, -3);
         BENCH.y(s(2, 0));
         fromGives(1, s(0));
         fromGives(-2, s(0));
@@ -498,6 +521,37 @@ public final class EdgesOfVerbsTest {
         BENCH.y(s(8, 0, 8));
         fromGives(7, s(0, 8));
         fromGives(-8, s(0, 8));
+    }
+
+    private static void declaredRanks() {
+        BENCH.sentence("Declared ranks: NEG 0, IOTA 0, SHAPE 3, REVERSE 3, SUM 3, RAVEL 3; PLUS, MINUS, TIMES,"
+                + " MAX left 0 right 0; RESHAPE left 1 right 3; TAKE left 0 right 3; FROM left 0 right 3.");
+        BENCH.begin(8);
+        BENCH.y(s(2, 2, 2));
+        BENCH.monadGives("neg", NEG, s(2, 2, 2), 0, -1, -2, -3, -4, -5, -6, -7);
+        BENCH.monadRefused("iota", IOTA, LIMIT);
+        BENCH.monadGives("shape", SHAPE, s(3), 2, 2, 2);
+        BENCH.monadGives("reverse", REVERSE, s(2, 2, 2), 4, 5, 6, 7, 0, 1, 2, 3);
+        BENCH.monadGives("sum", SUM, s(2, 2), 4, 6, 8, 10);
+        BENCH.monadGives("ravel", RAVEL, s(8), 0, 1, 2, 3, 4, 5, 6, 7);
+        BENCH.x(s(2), 10, 20);
+        BENCH.dyadGives("plus", PLUS, s(2, 2, 2), 10, 11, 12, 13, 24, 25, 26, 27);
+        BENCH.dyadGives("minus", MINUS, s(2, 2, 2), 10, 9, 8, 7, 16, 15, 14, 13);
+        BENCH.dyadGives("times", TIMES, s(2, 2, 2), 0, 10, 20, 30, 80, 100, 120, 140);
+        BENCH.x(s(2), 2, 5);
+        BENCH.dyadGives("max", MAX, s(2, 2, 2), 2, 2, 2, 3, 5, 5, 6, 7);
+        BENCH.x(s(2, 1), 3, 2);
+        BENCH.dyadGives("reshape", RESHAPE, s(2, 3), 0, 1, 2, 0, 1, -6);
+        BENCH.x(s(), 1);
+        BENCH.dyadGives("take", TAKE, s(1, 2, 2), 0, 1, 2, 3);
+        BENCH.dyadGives("from", FROM, s(2, 2), 4, 5, 6, 7);
+        // Frames that would not agree if y were split, and x cells that would not be scalars.
+        BENCH.x(s(3), 1, 0, 1);
+        BENCH.y(s(2), 7, 8);
+        BENCH.dyadGives("take by a list", TAKE, s(3, 1), 7, -6, 7);
+        BENCH.dyadGives("from by a list", FROM, s(3), 8, 7, 8);
+        BENCH.dyadGives("reshape by a list", RESHAPE, s(1, 0, 1));
+        BENCH.dyadRefused("plus of a list", PLUS, RankAgreement.ERR_LENGTH);
     }
 
     private static void limitRule() {
